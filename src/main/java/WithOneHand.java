@@ -26,18 +26,18 @@ public final class WithOneHand {
     private static final int SECONDS_LED = 0, PUT_LED = 1, OUT_LED = 2, NIGHTS_LED = 3;
 
     private final int[][] numbers = new int[LOOK + 1][MOST_SPOTS];
-    private final int[] tape = new int[MOST_BYTES];
     private final History history = new History();
-    private final Deeds deeds = new Deeds(numbers[DONE]);
-    private final Deeds kept = new Deeds(new int[MOST_SPOTS]);
+    private final Deeds deeds = new Deeds();
+    private final Deeds kept = new Deeds();
+    private final int[] keptDone = new int[2];
     private final Pairs pairs = new Pairs();
     private final Turns turns = new Turns();
     private final Holes holes = new Holes();
     private final Shelf[] shelves = new Shelf[MOST_SHELVES];
     private final int[] looked = new int[MOST_SPOTS];
-    private Law ruling = new Law(tape);
-    private Law spare = new Law(tape);
-    private int linkCount, cuffCount, spotCount, byteCount;
+    private Law ruling = new Law();
+    private Law coming = new Law();
+    private int linkCount, cuffCount, spotCount;
     private boolean isKept;
 
     public WithOneHand() {
@@ -100,20 +100,19 @@ public final class WithOneHand {
 
     public int feed(int letter) {
         if (letter < 0 || letter > 255) return BAD;
-        if (byteCount >= MOST_BYTES) return FULL;
-        tape[byteCount] = letter;
-        byteCount++;
-        return byteCount;
+        if (coming.length >= MOST_BYTES) return FULL;
+        coming.text[coming.length] = letter;
+        coming.length++;
+        return coming.length;
     }
 
     public int law() {
-        int length = byteCount;
-        byteCount = 0;
-        int fault = spare.faultOf(length);
+        int fault = coming.faultOfText();
+        coming.length = 0;
         if (fault >= 0) return -100 - fault;
         Law before = ruling;
-        ruling = spare;
-        spare = before;
+        ruling = coming;
+        coming = before;
         return 1;
     }
 
@@ -310,6 +309,7 @@ public final class WithOneHand {
 
     public int image() {
         kept.becomeLike(deeds);
+        System.arraycopy(numbers[DONE], 0, keptDone, 0, 2);
         isKept = true;
         return deeds.ledger[SECONDS_LED];
     }
@@ -317,6 +317,7 @@ public final class WithOneHand {
     public int back() {
         if (!isKept) return STATE;
         deeds.becomeLike(kept);
+        System.arraycopy(keptDone, 0, numbers[DONE], 0, 2);
         return deeds.ledger[SECONDS_LED];
     }
 
@@ -408,7 +409,7 @@ public final class WithOneHand {
             case 0: return linkCount;
             case 1: return cuffCount;
             case 2: return spotCount;
-            case 3: return byteCount;
+            case 3: return coming.length;
             case 4: return history.made;
             case 5: return holes.many;
             case 6: return holes.ran;
@@ -622,7 +623,7 @@ public final class WithOneHand {
         return part == 0 ? above / divisor : below / divisor;
     }
 
-    /** THE LAW: a text turned into steps on a stack, so that a text with a FAULT never rules. */
+    /** THE TAPE with the law that comes from it: steps on a stack. One rules while the next one is fed. */
     private static final class Law {
         private static final int NUMBER = '0', NAME = 'a', NEGATED = '~', IF = '?', ENDS = ';';
         private static final int MOST_OPEN = 6, MOST_DIGITS = 4;
@@ -636,20 +637,16 @@ public final class WithOneHand {
         private final int[] operands = new int[MOST_BYTES + 1];
         private final int[] stack = new int[MOST_WAITING];
         private final int[] named = new int[6];
-        private final int[] text;
-        private int size, top, length, place;
-
-        Law(int[] tape) {
-            text = tape;
-        }
+        private int size, top, place;
+        final int[] text = new int[MOST_BYTES];
+        int length;
 
         boolean isTold() {
             return size > 0;
         }
 
-        /** Reads what is on the tape to become this law: its FAULT, or -1. */
-        int faultOf(int bytes) {
-            length = Math.min(bytes, text.length);
+        /** Turns the text into this law: its FAULT, or -1. */
+        int faultOfText() {
             place = 0;
             size = 0;
             boolean goesOn = true;
@@ -662,7 +659,7 @@ public final class WithOneHand {
         }
 
         private int here() {
-            return place >= 0 && place < length ? text[place] : -1;
+            return place >= 0 && place < length && place < text.length ? text[place] : -1;
         }
 
         private void add(int step, int operand) {
@@ -944,15 +941,12 @@ public final class WithOneHand {
         }
     }
 
-    /** What AN IMAGE keeps: which are in, DONE, what LED tells. */
+    /** What AN IMAGE keeps, but for DONE, which is a number of mend(): which are in, what LED tells. */
     private static final class Deeds {
         final int[] linkIn = new int[MOST_CUFFS];
         final int[] ledger = new int[NIGHTS_LED + 1];
-        private final int[] done;
 
-        /** DONE is a number of mend() too, so its row is handed in. */
-        Deeds(int[] done) {
-            this.done = done;
+        Deeds() {
             Arrays.fill(linkIn, NOT);
         }
 
@@ -975,7 +969,6 @@ public final class WithOneHand {
         void becomeLike(Deeds other) {
             System.arraycopy(other.linkIn, 0, linkIn, 0, MOST_CUFFS);
             System.arraycopy(other.ledger, 0, ledger, 0, ledger.length);
-            System.arraycopy(other.done, 0, done, 0, 2);
         }
     }
 

@@ -12,6 +12,7 @@ public final class DeedTest {
         redo();
         changesThatAreNone();
         fortyChanges();
+        fortyChangesOfAll();
         deedsAreNoChanges();
         Due.end();
     }
@@ -216,6 +217,30 @@ public final class DeedTest {
         for (int i = 39; i >= 0; i--) Due.is("redo of forty", x.redo(), i);
         Due.is("gap at last", x.of(0, 5), 65);
         Due.is("no more to do again", x.redo(), Due.STATE);
+    }
+
+    /** Changes of many numbers, more than are kept: each comes back to where it was. */
+    private static void fortyChangesOfAll() {
+        WithOneHand x = Due.with(2, 2, 2, 2, 2, 2);
+        for (int i = 0; i < 8; i++) x.spot(20, 20);
+        int[][] changes = new int[50][];
+        for (int i = 0; i < 50; i++) {
+            int what = i * 5 % 13;
+            int holders = what <= 5 ? 6 : what <= 8 ? 2 : what <= 10 ? 1 : 8;
+            int number = i * 7 % holders;
+            int v = x.of(number, what) == 1 ? what == 4 ? 0 : 3 : 1;
+            changes[i] = new int[] {number, what, x.of(number, what), v};
+            x.mend(number, what, v);
+        }
+        for (int i = 49; i >= 10; i--) {
+            Due.is("undo of many", x.undo(), i - 10);
+            Due.is("as it was", x.of(changes[i][0], changes[i][1]), changes[i][2]);
+        }
+        Due.is("no more of many", x.undo(), Due.STATE);
+        for (int i = 10; i < 50; i++) {
+            Due.is("redo of many", x.redo(), 49 - i);
+            Due.is("as it became", x.of(changes[i][0], changes[i][1]), changes[i][3]);
+        }
     }
 
     private static void deedsAreNoChanges() {

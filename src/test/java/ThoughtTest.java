@@ -17,6 +17,7 @@ public final class ThoughtTest {
         by();
         practice();
         level();
+        whichLinkWhichCuff();
         Due.end();
     }
 
@@ -331,6 +332,37 @@ public final class ThoughtTest {
         Due.is("x 999", x.practice(0, 999, 0), 0);
         Due.is("what -1", x.practice(0, 5, -1), Due.BAD);
         Due.is("what 2", x.practice(0, 5, 2), Due.BAD);
+    }
+
+    /** Each call that takes a LINK and a CUFF takes the one by tens, the other by ones. */
+    private static void whichLinkWhichCuff() {
+        WithOneHand x = Due.with(1, 2, 3, 4, 5, 6);
+        Due.tells(x, "l*10+c-n");
+        x.mend(0, 9, 6);
+        x.mend(0, 10, 2);
+        for (int link = 0; link < 6; link++) {
+            for (int cuff = 0; cuff < 6; cuff++) {
+                int lc = 10 * link + cuff, due = 10 * (link + 1) + cuff;
+                Due.is("seconds", x.seconds(lc, 0), due);
+                isFraction("dropped", x.dropped(lc, 0), x.dropped(lc, 1), 2 * due + 2, 1);
+                Due.is("by, just not", x.by(lc, due - 1, 0), 0);
+                isFraction("by", x.by(lc, due, 0), x.by(lc, due, 1), 1, 2);
+                Due.is("practice", x.practice(lc, due - 5, 0), 5);
+                Due.is("level", x.practice(lc, due, 1), 0);
+                Due.is("no level", x.practice(lc, due - 1, 1), Due.NOT);
+                x.mend(0, 9, 0);
+                Due.is("drawn", x.drawn(lc, 1, 1, 0), due);
+                x.mend(0, 9, 6);
+                Due.lays(x, 0, Due.SHORTS, due, due - 1);
+                Due.is("judge", x.judge(0, lc), Due.NOT);
+                Due.is("judge of another", x.judge(0, (lc + 10) % 60), 0);
+                Due.is("starched", x.how(0, lc, 0), 0);
+                Due.is("starched of another", x.how(0, (lc + 10) % 60, 0), Due.NOT);
+                Due.is("which hand", x.how(0, lc, 1), 3);
+                Due.is("which hand of another", x.how(0, (lc + 10) % 60, 1), 0);
+                Due.is("which link", x.which(0, cuff), 1 << link);
+            }
+        }
     }
 
     private static void level() {
