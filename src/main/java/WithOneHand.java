@@ -66,7 +66,7 @@ public final class WithOneHand {
     }
 
     public int cuffs(int shelf, int i, int n) {
-        if (!isShelf(shelf) || i < 0 || n < 1 || n > MOST_CUFFS) return BAD;
+        if (!isShelf(shelf) || n < 1 || n > MOST_CUFFS) return BAD;
         Shelf from = shelves[shelf];
         if (from.holdsNothing()) return 0;
         if (!from.holdsRowOf(Shelf.BYTES)) return OTHER_KIND;
@@ -583,12 +583,12 @@ public final class WithOneHand {
         }
     }
 
-    /** Lays the SPOTS that the row names, each once, into looked: how many. */
+    /** Lays the SPOTS that the row names into looked: how many. What is no SPOT, or told before, ends the order. */
     private int spotsFrom(Shelf row) {
         int many = 0, seen = 0;
         for (int i = 0; i < row.size && many < MOST_SPOTS; i++) {
             int spot = (int) row.elements[i];
-            if (spot < 0 || spot >= spotCount || (seen >> spot & 1) != 0) continue;
+            if (spot < 0 || spot >= spotCount || (seen >> spot & 1) != 0) return many;
             seen |= 1 << spot;
             looked[many] = spot;
             many++;

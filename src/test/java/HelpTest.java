@@ -81,12 +81,13 @@ public final class HelpTest {
         Due.lays(x, 0, Due.BYTES);
         isTold("none", x, 999, 1);
         Due.lays(x, 0, Due.BYTES, 2);
-        // 2 * 3 + 14 * 999.
-        isTold("one", x, 13992 / 8, 2);
-        Due.lays(x, 0, Due.BYTES, 2, 2, 0, 2, 0, 1, 1);
+        // 2 * 3 + 14 * 999 = 13992 of 16.
+        isTold("one", x, 1749, 2);
+        Due.lays(x, 0, Due.BYTES, 2, 0, 1, 1, 0, 2);
         isTold("each once", x, 229, 8);
-        Due.lays(x, 0, Due.BYTES, 3, 2, -1, 0, 127, -128, 1);
-        isTold("as far as such spots", x, 229, 8);
+        Due.lays(x, 0, Due.BYTES, 2, 2, 0, 1);
+        isTold("a spot told again ends the order", x, 1749, 2);
+        toldEndsAtNoSpot(x);
         Due.lays(x, 0, Due.BYTES, 4, 3);
         isTold("no such spots", x, 999, 1);
         Due.lays(x, 0, Due.BYTES, 256 + 2, 0, 1);
@@ -97,6 +98,21 @@ public final class HelpTest {
         Due.lays(x, 0, Due.BYTES, many);
         // 1 .. 5 for spots 7 .. 3, then 2 at 8, 9 at 38, 5 at 48: 15 + 16 + 342 + 240 = 613 of 21.
         isTold("eight spots", x, 613, 21);
+    }
+
+    private static void toldEndsAtNoSpot(WithOneHand x) {
+        for (long no : new long[] {3, 8, 127, -1, -128}) {
+            Due.lays(x, 0, Due.BYTES, no, 2, 0, 1);
+            isTold(no + " first", x, 999, 1);
+            Due.lays(x, 0, Due.BYTES, 2, no, 0, 1);
+            // As of 2 alone.
+            isTold(no + " second", x, 1749, 2);
+            Due.lays(x, 0, Due.BYTES, 2, 0, no, 1);
+            // 2 * 3 + 5 * 13 + 9 * 999 = 9062 of 16.
+            isTold(no + " third", x, 4531, 8);
+            Due.lays(x, 0, Due.BYTES, 2, 0, 1, no);
+            isTold(no + " last", x, 229, 8);
+        }
     }
 
     private static void toldRefusals() {

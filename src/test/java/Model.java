@@ -43,7 +43,7 @@ final class Model {
     }
 
     int cuffs(int shelf, int i, int n) {
-        if (shelf < 0 || shelf > 5 || i < 0 || n < 1 || n > 6) return -1;
+        if (shelf < 0 || shelf > 5 || n < 1 || n > 6) return -1;
         if (shelves[shelf] != null && !(shelves[shelf] instanceof byte[])) return -12;
         int came = 0;
         try {
@@ -380,7 +380,8 @@ final class Model {
         if (spots.isEmpty()) return -2;
         List<Integer> way = new ArrayList<>();
         for (byte b : (byte[]) shelves[shelf]) {
-            if (b >= 0 && b < spots.size() && !way.contains((int) b)) way.add((int) b);
+            if (b < 0 || b >= spots.size() || way.contains((int) b)) break;
+            way.add((int) b);
         }
         return mean(way, part);
     }

@@ -90,10 +90,12 @@ public final class NumbersTest {
         Due.is("cuffs from shelf -1", x.cuffs(-1, 0, 1), Due.BAD);
         Due.is("no cuffs", x.cuffs(0, 0, 0), Due.BAD);
         Due.is("seven cuffs", x.cuffs(0, 0, 7), Due.BAD);
-        Due.is("cuffs from place -1", x.cuffs(0, -1, 1), Due.BAD);
+        Due.is("cuffs from place -1 of nothing", x.cuffs(0, -1, 1), 0);
+        Due.is("bad ahead of a place below 0", x.cuffs(0, -1, 0), Due.BAD);
         for (int sort = Due.SHORTS; sort <= Due.BOOLEANS; sort++) {
             x.row(0, sort, 9);
             Due.is("cuffs from sort " + sort, x.cuffs(0, 0, 1), Due.OTHER_KIND);
+            Due.is("cuffs from place -1 of sort " + sort, x.cuffs(0, -1, 1), Due.OTHER_KIND);
         }
         Due.is("bad ahead of another kind", x.cuffs(0, 0, 7), Due.BAD);
         x.body(0);
@@ -117,6 +119,9 @@ public final class NumbersTest {
         Due.is("from the end on", x.cuffs(0, 5, 2), 0);
         Due.is("from behind the end on", x.cuffs(0, 60, 2), 0);
         Due.is("from far behind the end on", x.cuffs(0, Integer.MAX_VALUE, 6), 0);
+        for (int below : new int[] {-1, -2, -3, -4, -6, -15, Integer.MIN_VALUE, Integer.MIN_VALUE + 1}) {
+            Due.is("from place " + below + " on", x.cuffs(0, below, 6), 0);
+        }
         Due.is("one came", x.count(1), 1);
         long[][] notSo = {{10, 0, 0}, {-1, 0, 0}, {0, 10, 0}, {0, -1, 0}, {0, 0, 2}, {0, 0, -1}};
         for (long[] three : notSo) {

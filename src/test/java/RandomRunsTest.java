@@ -155,6 +155,7 @@ public final class RandomRunsTest {
             case "seconds0": case "dropped0": case "by0": case "practice0": case "drawn0": case "puts0": case "judge1":
             case "how1": return 10 * of + random.nextInt(6);
             case "seconds1": return random.nextInt(4);
+            case "cuffs1": return random.nextInt(10) - 3;
             case "paired0": return random.nextInt(8);
             case "paired1": return random.nextInt(8) - 1;
             case "order0": return random.nextInt(9) - 2;
