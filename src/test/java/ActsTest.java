@@ -45,11 +45,11 @@ public final class ActsTest {
     }
 
     private static void allActs() {
-        WithOneHand x = new WithOneHand();
-        for (int i = 0; i < 50; i++) x.body((i * 5 + 3) % 8);
         for (int i = 0; i < 50; i++) {
             Acts.Hole hole = Acts.of((i * 5 + 3) % 8, i);
             for (int act = 0; act < 4; act++) {
+                WithOneHand x = new WithOneHand();
+                for (int body = 0; body < 50; body++) x.body((body * 5 + 3) % 8);
                 for (int v : XS) isActed(x, i, act, v, hole);
             }
         }

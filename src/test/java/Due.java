@@ -5,6 +5,9 @@ final class Due {
     static final long REFUSED = Long.MIN_VALUE;
     static final int BYTES = 0, SHORTS = 1, INTS = 2, LONGS = 3, BOOLEANS = 4;
 
+    /** What the answers to come are about; told with those that are not as due. */
+    static String about = "";
+
     private static int asked, wrong;
 
     private Due() { }
@@ -13,7 +16,7 @@ final class Due {
         asked++;
         if (got == want) return;
         wrong++;
-        System.out.println(call + " answered " + got + ", due is " + want);
+        System.out.println((about.isEmpty() ? "" : about + ": ") + call + " answered " + got + ", due is " + want);
     }
 
     static void end() {

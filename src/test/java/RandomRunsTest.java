@@ -83,7 +83,7 @@ public final class RandomRunsTest {
             model.put(shelf, i, v);
         }
         log.add("row of " + n + " on " + shelf);
-        return n + 1;
+        return n + 2;
     }
 
     private String anyText() {

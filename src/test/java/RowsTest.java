@@ -25,6 +25,7 @@ public final class RowsTest {
         Due.is("bad shelf ahead of -1 elements", x.row(6, 0, -1), Due.BAD);
         Due.is("nothing there still", x.put(0, 0, 1), Due.MISSING);
         for (int shelf = 0; shelf < 6; shelf++) {
+            x = new WithOneHand();
             for (int sort = 0; sort <= 4; sort++) {
                 Due.is("no elements", x.row(shelf, sort, 0), 1);
                 Due.holds("no elements", x, shelf);

@@ -336,11 +336,11 @@ public final class ThoughtTest {
 
     /** Each call that takes a LINK and a CUFF takes the one by tens, the other by ones. */
     private static void whichLinkWhichCuff() {
-        WithOneHand x = Due.with(1, 2, 3, 4, 5, 6);
-        Due.tells(x, "l*10+c-n");
-        x.mend(0, 9, 6);
-        x.mend(0, 10, 2);
         for (int link = 0; link < 6; link++) {
+            WithOneHand x = Due.with(1, 2, 3, 4, 5, 6);
+            Due.tells(x, "l*10+c-n");
+            x.mend(0, 9, 6);
+            x.mend(0, 10, 2);
             for (int cuff = 0; cuff < 6; cuff++) {
                 int lc = 10 * link + cuff, due = 10 * (link + 1) + cuff;
                 Due.is("seconds", x.seconds(lc, 0), due);
